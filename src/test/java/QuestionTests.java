@@ -164,6 +164,9 @@ public final class QuestionTests {
                 x.crash(n);
             }
         }
+        while (x.messages() > 0) {
+            x.lose(0);
+        }
         x.restart(node);
         while (x.node(node, 1) != 1 || x.node(node, 2) < term || x.messages() < 4) {
             x.tick(1);
@@ -205,7 +208,12 @@ public final class QuestionTests {
         elect(x, 0, x.node(0, 2) + 1, 1, 2);
         x.restart(3);
         x.restart(4);
+        Check.message("the append goes on from the end", x, 0, 2, 0, 1, x.node(0, 2),
+                x.statistic(0) + 1, 24, 0);
+        x.tick(1);
+        Check.message("failure", x, 0, 3, 1, 0, x.node(0, 2), x.statistic(0) + 1, 23, 0);
         x.setDelay(5);
+        int removed = x.statistic(5);
         int most = 0;
         for (int i = 0; i < 60; i++) {
             int lost = x.statistic(2);
@@ -216,6 +224,7 @@ public final class QuestionTests {
         Check.same("the most messages", most, 40);
         Check.holds("more were sent and lost", x.statistic(2) > 0);
         x.tick(60);
+        Check.same("removed", x.statistic(5) - removed, 2 * 24 + 2 * 23);
         Check.holds("the logs become alike", x.alike(0, 1) == 24 && x.alike(0, 4) == 24);
     }
 
@@ -279,6 +288,23 @@ public final class QuestionTests {
         Check.same("without the newer one", x.leader(), 0);
         x.crash(0);
         Check.refuses("no leader is up", Check.NO_ELEMENT, () -> x.leader());
+        promise18OtherOrder();
+    }
+
+    private static void promise18OtherOrder() {
+        QuorumLog x = new QuorumLog();
+        x.crash(0);
+        x.crash(1);
+        x.tick(14);
+        x.restart(0);
+        x.restart(1);
+        x.tick(2);
+        Check.same("the last node leads", x.leader(), 2);
+        x.setLink(0, 2, true);
+        x.setLink(1, 2, true);
+        x.tick(40);
+        Check.same("it leads still", x.node(2, 1), 2);
+        Check.holds("but an earlier node has a greater term", x.leader() < 2);
     }
 
     private static void promise19() {

@@ -8,7 +8,7 @@ import java.util.Map;
  * Model, and what is true of every replicated log must be true of this one.
  */
 public final class RandomRuns {
-    private static final int RUNS = 300;
+    private static final int RUNS = 500;
     private static final int CALLS = 160;
 
     private long state;

@@ -9,11 +9,15 @@ public final class SimulationTests {
         promise1();
         promise2();
         promise2BeginsAnew();
+        promise2AfterMore();
         promise2Timers();
         promise3();
         promise3Election();
         promise3Replication();
         promise3Votes();
+        promise3TwoCandidates();
+        promise3GreaterTerm();
+        promise3ConfigurationOverwritten();
         promise3Conflict();
         promise3SnapshotMessage();
         promise3Batches();
@@ -89,6 +93,7 @@ public final class SimulationTests {
         x.tick(2);
         x.crash(2);
         Check.holds("there are messages", x.messages() > 0);
+        x.lose(0);
         Check.same("start", x.start(11, 40), 3);
         for (int n = 0; n < 5; n++) {
             Check.node("begun anew", x, n, 1, 0, 0, -1, 0, 0, 0, 0, 0, timeout(40, 0, n), 0, 11, -1, 0);
@@ -103,6 +108,41 @@ public final class SimulationTests {
         Check.same("the input buffer stays", x.feed('i'), 2);
         Check.same("the text stays", x.text(0), first);
         Check.same("what was saved stays", x.restore(), 25);
+    }
+
+    private static void promise2AfterMore() {
+        QuorumLog x = withConflict();
+        int leader = x.leader();
+        x.setLink(0, 1, false);
+        x.setLink(0, 2, false);
+        x.tick(20);
+        x.submit(leader, 1);
+        x.setLink(0, leader, true);
+        x.tick(10);
+        x.pack(leader);
+        x.setLink(0, leader, false);
+        x.tick(20);
+        Check.holds("removed", x.statistic(5) > 0);
+        Check.holds("snapshots", x.statistic(6) > 0);
+        x.start(1, 3);
+        for (int what = 0; what <= 6; what++) {
+            Check.same("statistic " + what, x.statistic(what), 0);
+        }
+        fillJoint(x);
+        x.pack(0);
+        Check.same("joint by its snapshot", x.node(0, 10), 1);
+        x.start(1, 3);
+        Check.same("not joint", x.node(0, 10), 0);
+        Check.log("no snapshot", x, 0, "");
+    }
+
+    /** Leaves the leader with a joint configuration as the last of 24 entries. */
+    private static void fillJoint(QuorumLog x) {
+        x.tick(16);
+        for (int i = 2; i <= 23; i++) {
+            x.submit(0, i);
+        }
+        Check.same("the last entry", x.reconfigure(0, 1), 24);
     }
 
     private static int timeout(int seed, int term, int node) {
@@ -208,6 +248,69 @@ public final class SimulationTests {
         x.tick(1);
         Check.same("it is still a candidate", x.node(2, 1), 1);
         Check.same("with itself as its only voter", x.node(2, 13), 4);
+    }
+
+    /** A delay of 4 lets the nodes 0 and 1 stand in the same term, at 8 and 11. */
+    private static void promise3TwoCandidates() {
+        QuorumLog x = new QuorumLog();
+        x.setDelay(4);
+        x.tick(11);
+        Check.node("the first one", x, 0, 1, 1, 1, 0);
+        Check.node("the second one", x, 1, 1, 1, 1, 1);
+        Check.same("messages", x.messages(), 4);
+        x.tick(1);
+        Check.message("the second one refuses", x, 2, 1, 1, 0, 1, 16, 0, 0);
+        Check.message("the third node grants", x, 3, 1, 2, 0, 1, 16, 0, 1);
+        x.tick(3);
+        Check.message("the first one refuses", x, 2, 1, 0, 1, 1, 19, 0, 0);
+        Check.message("the third node has voted", x, 3, 1, 2, 1, 1, 19, 0, 0);
+        Check.same("its vote stays", x.node(2, 3), 0);
+        x.tick(1);
+        Check.same("the first one wins", x.node(0, 1), 2);
+        Check.same("the second one has only itself", x.node(1, 13), 2);
+        x.tick(4);
+        Check.node("the second one follows", x, 1, 1, 0, 1, 1, 0, 1, 1, 0, 0, timeout(0, 1, 1) - 1);
+        Check.same("and has no voters", x.node(1, 13), 0);
+    }
+
+    /** A leader that was cut off learns of the greater term by a failure with the index 0. */
+    private static void promise3GreaterTerm() {
+        QuorumLog x = withConflict();
+        int newer = x.leader();
+        int other = 3 - newer;
+        x.setLink(0, other, false);
+        while (x.messages() == 0 || x.message(0, 1) != 0) {
+            x.tick(1);
+        }
+        int term = x.node(newer, 2);
+        Check.message("sent by the old leader", x, 0, 2, 0, other, 1, x.statistic(0) + 1, 1, 4);
+        x.tick(1);
+        int answer = x.message(0, 0) == 3 ? 0 : 1;
+        Check.message("failure", x, answer, 3, other, 0, term, x.statistic(0) + 1, 0, 0);
+        Check.same("it does not follow yet", x.node(0, 1), 2);
+        int timer = x.node(0, 9);
+        x.tick(1);
+        Check.node("it follows", x, 0, 1, 0, term, -1, 1, 7, 1);
+        Check.same("its timer is kept", x.node(0, 9), timer - 1);
+        Check.refuses("its notes are gone", Check.STATE, () -> x.noted(0, 1, 0));
+    }
+
+    private static void promise3ConfigurationOverwritten() {
+        QuorumLog x = new QuorumLog();
+        x.tick(14);
+        x.setLink(0, 1, true);
+        x.setLink(0, 2, true);
+        x.reconfigure(0, 9);
+        Check.same("joint", x.node(0, 10), 7);
+        Check.same("the new group", x.node(0, 11), 9);
+        x.tick(40);
+        Check.log("not committed", x, 0, "1:-! 1:J233");
+        x.setLink(0, 1, false);
+        x.setLink(0, 2, false);
+        x.tick(20);
+        Check.same("removed", x.statistic(5), 1);
+        Check.same("not joint", x.node(0, 10), 0);
+        Check.same("the group as before", x.node(0, 11), 7);
     }
 
     private static QuorumLog withConflict() {
@@ -501,11 +604,7 @@ public final class SimulationTests {
     /** A joint configuration in a full log waits for room. */
     private static void promise9Order() {
         QuorumLog x = Check.started(1, 3);
-        x.tick(16);
-        for (int i = 2; i <= 23; i++) {
-            x.submit(0, i);
-        }
-        Check.same("the last entry", x.reconfigure(0, 1), 24);
+        fillJoint(x);
         Check.node("joint", x, 0, 1, 2, 1, 0, 24, 24, 1, 0);
         Check.same("its old group", x.node(0, 10), 1);
         Check.refuses("joint and full", Check.STATE, () -> x.reconfigure(0, 1));

@@ -12,6 +12,8 @@ public final class TextTests {
         promise26();
         promise27And28();
         promise28StaysSaved();
+        promise28JointSnapshot();
+        promise28InEachState();
         Check.end("TextTests");
     }
 
@@ -211,7 +213,113 @@ public final class TextTests {
         x.tick(9);
         Check.same("restore", x.restore(), 14);
         Check.log("what was saved", x, 0, "1:-! 1:1");
-        Check.same("the seed is restored", x.tick(1), 15);
+        x.start(7, 12345);
+        x.save();
+        x.tick(30);
+        int[][] later = told(x);
+        x.start(7, 54321);
+        x.restore();
+        x.tick(30);
+        same("the seed is restored", told(x), later);
+    }
+
+    /** A joint configuration in a snapshot, first in a message and then in a node. */
+    private static void promise28JointSnapshot() {
+        QuorumLog x = new QuorumLog();
+        x.tick(14);
+        x.reconfigure(0, 15);
+        x.crash(3);
+        x.tick(3);
+        Check.same("the joint configuration is packed", x.pack(0), 2);
+        Check.log("but not the next one", x, 0, "[2] 1:C15");
+        x.restart(3);
+        x.tick(1);
+        Check.message("a snapshot", x, 2, 4, 0, 3, 1, 19, 2, 1);
+        x.save();
+        disturb(x, 30);
+        x.restore();
+        x.tick(1);
+        Check.node("installed", x, 3, 1, 0, 1, -1, 2, 2, 1, 2, 0, 10, 7, 15, -1, 0);
+        x.save();
+        disturb(x, 30);
+        x.restore();
+        Check.node("restored", x, 3, 1, 0, 1, -1, 2, 2, 1, 2, 0, 10, 7, 15, -1, 0);
+        x.tick(6);
+        Check.log("with the next one", x, 3, "[2] 1:C15!");
+    }
+
+    /** One object is disturbed between a save and a restore, in each step of a long run. */
+    private static void promise28InEachState() {
+        QuorumLog x = Check.started(31, 0);
+        QuorumLog y = Check.started(31, 0);
+        int packed = 0;
+        int voters = 0;
+        for (int i = 1; i <= 300; i++) {
+            step(x, i);
+            y.save();
+            disturb(y, i);
+            y.restore();
+            step(y, i);
+            same("after the step " + i, told(y), told(x));
+            packed += x.node(i % 5, 7) > 0 ? 1 : 0;
+            voters += Integer.bitCount(x.node(0, 13)) == 2 ? 1 : 0;
+        }
+        Check.holds("snapshots were sent", x.statistic(6) > 1);
+        Check.holds("entries were removed", x.statistic(5) > 1);
+        Check.holds("there were snapshots", packed > 50);
+        Check.holds("there were candidates with one voter more", voters > 0);
+    }
+
+    private static void step(QuorumLog x, int i) {
+        int leader = 0;
+        for (int n = 0; n < 5; n++) {
+            leader = x.node(n, 1) == 2 && x.node(n, 2) > x.node(leader, 2) ? n : leader;
+        }
+        if (x.node(leader, 1) == 2 && x.node(leader, 5) - x.node(leader, 7) < 22) {
+            x.submit(leader, i);
+        }
+        if (i % 29 == 0) {
+            x.setLink(leader, (leader + 1) % 5, i % 2 == 0);
+            x.setLink(leader, (leader + 2) % 5, i % 2 == 0);
+            x.setLink(leader, (leader + 3) % 5, i % 2 == 0);
+        }
+        if (i % 23 == 0 && x.node(leader, 0) == 1) {
+            x.pack(leader);
+        }
+        if (i % 37 == 0 && x.node((leader + 1) % 5, 0) == 1) {
+            x.crash((leader + 1) % 5);
+        }
+        if (i % 67 == 0 && x.node(leader, 0) == 1) {
+            x.crash(leader);
+        }
+        for (int n = 0; n < 5 && i % 29 == 0; n++) {
+            if (x.node(n, 0) == 0) {
+                x.restart(n);
+            }
+        }
+        if (i % 11 == 0) {
+            x.setDelay(1 + i % 3);
+        }
+        if (x.messages() > 0 && i % 3 == 0) {
+            x.lose(i % x.messages());
+        }
+        x.tick(1);
+    }
+
+    private static void disturb(QuorumLog x, int i) {
+        x.start(1 + i % 31, i);
+        x.setDelay(1 + i % 5);
+        x.tick(12);
+        for (int k = 0; k < 20; k++) {
+            for (int n = 0; n < 5; n++) {
+                if (x.node(n, 1) == 2 && x.node(n, 5) < 24) {
+                    x.submit(n, k);
+                }
+            }
+        }
+        x.tick(7);
+        x.pack(i % 5);
+        x.tick(1 + i % 3);
     }
 
     /** All numbers about the simulation. */

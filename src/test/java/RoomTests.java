@@ -1,0 +1,42 @@
+import com.sun.management.ThreadMXBean;
+import java.lang.management.ManagementFactory;
+
+/** Calls make no objects, apart from the constructor, the first save and the growth of the text. */
+public final class RoomTests {
+    private static final int CALLS = 512;
+    private static final long MOST_BYTES = 100_000;
+
+    private RoomTests() { }
+
+    public static void main(String[] args) {
+        ThreadMXBean threads = (ThreadMXBean) ManagementFactory.getThreadMXBean();
+        long thread = Thread.currentThread().getId();
+        run();
+        long before = threads.getThreadAllocatedBytes(thread);
+        int time = run();
+        long made = threads.getThreadAllocatedBytes(thread) - before;
+        Check.holds("the run was long", time > 10_000);
+        Check.holds("a run takes " + made + " bytes", made < MOST_BYTES);
+        Check.end("RoomTests");
+    }
+
+    private static int run() {
+        QuorumLog x = new QuorumLog();
+        x.start(31, 0);
+        for (int i = 0; i < CALLS / 8; i++) {
+            x.tick(60);
+            x.tick(60);
+            x.tick(60);
+            for (int n = 0; n < 5; n++) {
+                if (x.node(n, 1) == 2 && x.node(n, 5) - x.node(n, 7) < 24) {
+                    x.submit(n, Integer.MIN_VALUE + i);
+                }
+                x.pack((i + n) % 3 == 0 ? n : 0);
+            }
+            x.write(i % 5);
+            x.save();
+            x.restore();
+        }
+        return x.statistic(0);
+    }
+}
