@@ -1,3 +1,11 @@
+import java.io.IOException;
+import java.nio.charset.StandardCharsets;
+import java.nio.file.Files;
+import java.nio.file.Path;
+import java.util.IdentityHashMap;
+import java.util.List;
+import java.util.Map;
+
 /** Counts what is as it is due, and prints what is not. */
 final class Check {
     static final Class<?> INDEX = IndexOutOfBoundsException.class;
@@ -7,6 +15,13 @@ final class Check {
     static final Class<?> NO_ELEMENT = java.util.NoSuchElementException.class;
     static final Class<?> ARITHMETIC = ArithmeticException.class;
 
+    private static final Path DOCUMENT = Path.of("../shared/DOC.md");
+
+    private static final Map<Looks.Run, List<String>> BEFORE = new IdentityHashMap<>();
+
+    private static String document = "";
+    private static String sentence = "";
+    private static String told = "";
     private static int passed;
     private static int failed;
 
@@ -16,17 +31,42 @@ final class Check {
         void make();
     }
 
-    static void same(String what, double got, double due) {
-        if (got == due) {
-            passed++;
-        } else {
-            failed++;
-            System.out.println(what + " is " + got + ", due is " + due);
+    /** Names the sentence of the document that the next checks are about. */
+    static void sentence(String words) {
+        sentence = words;
+        if (document.isEmpty()) {
+            document = read();
+        }
+        holds("the document has this sentence", document.contains(words));
+    }
+
+    private static String read() {
+        try {
+            return Files.readString(DOCUMENT, StandardCharsets.UTF_8).replaceAll("\\s+", " ");
+        } catch (IOException e) {
+            throw new IllegalStateException(e);
         }
     }
 
+    private static void count(boolean isDue, String fault) {
+        if (isDue) {
+            passed++;
+        } else {
+            failed++;
+            if (!sentence.equals(told)) {
+                System.out.println("\"" + sentence + "\"");
+                told = sentence;
+            }
+            System.out.println("  " + fault);
+        }
+    }
+
+    static void same(String what, double got, double due) {
+        count(got == due, what + " is " + got + ", due is " + due);
+    }
+
     static void holds(String what, boolean is) {
-        same(what, is ? 1 : 0, 1);
+        count(is, what + " does not hold");
     }
 
     static void refuses(String what, Class<?> due, Call call) {
@@ -36,53 +76,101 @@ final class Check {
         } catch (RuntimeException e) {
             got = e.getClass();
         }
-        if (got == due) {
-            passed++;
-        } else {
-            failed++;
-            System.out.println(what + " throws " + got + ", due is " + due);
+        count(got == due, what + " throws " + got + ", due is " + due);
+    }
+
+    /** Two runs of calls leave what cannot be told apart. */
+    static void alike(String what, Looks.Run got, Looks.Run due) {
+        alike(what, got, Looks.of(Real::new, due));
+    }
+
+    static void alike(String what, Looks.Run got, List<String> due) {
+        String difference = Looks.difference(Looks.of(Real::new, got), due);
+        count(difference == null, what + ": " + difference);
+    }
+
+    /** The call throws this behind these calls, and leaves everything as it was. */
+    static void refused(String what, Class<?> due, Looks.Run before, Looks.Run call) {
+        Face x = new Real();
+        before.on(x);
+        refuses(what, due, () -> call.on(x));
+        alike("the state after " + what, y -> {
+            before.on(y);
+            attempt(call, y);
+        }, BEFORE.computeIfAbsent(before, run -> Looks.of(Real::new, run)));
+    }
+
+    static void attempt(Looks.Run call, Face x) {
+        try {
+            call.on(x);
+        } catch (RuntimeException e) {
+            // What it throws is looked at elsewhere.
         }
     }
 
     /** The first numbers about a node: up, role, term, vote, commit index, last index .. */
-    static void node(String when, QuorumLog x, int node, int... due) {
+    static void node(String when, Face x, int node, int... due) {
         for (int what = 0; what < due.length; what++) {
             same(when + ": node(" + node + ", " + what + ")", x.node(node, what), due[what]);
         }
     }
 
     /** Kind, sender, receiver, term, due time and the two other parts of a message. */
-    static void message(String when, QuorumLog x, int i, int... due) {
+    static void message(String when, Face x, int i, int... due) {
         for (int what = 0; what < due.length; what++) {
             same(when + ": message(" + i + ", " + what + ")", x.message(i, what), due[what]);
         }
     }
 
-    static void log(String when, QuorumLog x, int node, String due) {
+    static void log(String when, Face x, int node, String due) {
         StringBuilder got = new StringBuilder();
         int length = x.write(node);
         for (int i = 0; i < length; i++) {
             got.append(x.text(i));
         }
-        holds(when + ": the log of " + node + " is \"" + got + "\", due is \"" + due + "\"",
-                due.equals(got.toString()));
+        count(due.equals(got.toString()),
+                when + ": the log of " + node + " is \"" + got + "\", due is \"" + due + "\"");
     }
 
-    static void feed(QuorumLog x, String text) {
+    static void feed(Face x, String text) {
         for (int i = 0; i < text.length(); i++) {
             x.feed(text.charAt(i));
         }
     }
 
-    static int perform(QuorumLog x, String text) {
+    static int perform(Face x, String text) {
         feed(x, text);
         return x.perform();
     }
 
-    static QuorumLog started(int members, int seed) {
-        QuorumLog x = new QuorumLog();
+    static Face started(int members, int seed) {
+        Face x = new Real();
         x.start(members, seed);
         return x;
+    }
+
+    /** Submits values to a leader until its last index is this one. */
+    static void fill(Face x, int leader, int last) {
+        for (int i = x.node(leader, 5) + 1; i <= last; i++) {
+            x.submit(leader, i);
+        }
+    }
+
+    static void loseAll(Face x) {
+        for (int i = x.messages(); i > 0; i--) {
+            x.lose(i - 1);
+        }
+    }
+
+    /** The number of the message of this kind between these nodes with this due time, or -1. */
+    static int find(Face x, int kind, int sender, int receiver, int due) {
+        for (int i = 0; i < x.messages(); i++) {
+            if (x.message(i, 0) == kind && x.message(i, 1) == sender && x.message(i, 2) == receiver
+                    && x.message(i, 4) == due) {
+                return i;
+            }
+        }
+        return -1;
     }
 
     static void end(String name) {

@@ -13,7 +13,7 @@ import java.util.regex.Pattern;
  * The document's sentences a second time, written in their order and without regard to speed,
  * memory or LANGUAGE.md, so that RandomRuns can compare the class with it.
  */
-final class Model {
+final class Model implements Face {
     record Entry(int term, int kind, int value) { }
 
     record Snap(int index, int term, int result, int old, int young) { }
@@ -444,7 +444,8 @@ final class Model {
         }
     }
 
-    int start(int members, int seed) {
+    @Override
+    public int start(int members, int seed) {
         if (members == 0 || (members & ~31) != 0) {
             throw new IllegalArgumentException();
         }
@@ -461,7 +462,8 @@ final class Model {
         return count;
     }
 
-    int tick(int ticks) {
+    @Override
+    public int tick(int ticks) {
         if (ticks < 1 || ticks > 60) {
             throw new IllegalArgumentException();
         }
@@ -471,7 +473,8 @@ final class Model {
         return w.time;
     }
 
-    int setDelay(int delay) {
+    @Override
+    public int setDelay(int delay) {
         if (delay < 1 || delay > 5) {
             throw new IllegalArgumentException();
         }
@@ -480,7 +483,8 @@ final class Model {
         return was;
     }
 
-    boolean setLink(int one, int other, boolean isCut) {
+    @Override
+    public boolean setLink(int one, int other, boolean isCut) {
         get(one);
         get(other);
         if (one == other) {
@@ -492,7 +496,8 @@ final class Model {
         return was;
     }
 
-    int crash(int node) {
+    @Override
+    public int crash(int node) {
         Node n = get(node);
         state(n.up);
         n.up = false;
@@ -500,7 +505,8 @@ final class Model {
         return n.term;
     }
 
-    int restart(int node) {
+    @Override
+    public int restart(int node) {
         Node n = get(node);
         state(!n.up);
         n.up = true;
@@ -509,7 +515,8 @@ final class Model {
         return n.last();
     }
 
-    int submit(int node, int value) {
+    @Override
+    public int submit(int node, int value) {
         Node n = get(node);
         state(n.role == 2);
         if (n.log.size() == 24) {
@@ -521,7 +528,8 @@ final class Model {
         return index;
     }
 
-    int reconfigure(int node, int members) {
+    @Override
+    public int reconfigure(int node, int members) {
         Node n = get(node);
         if (members == 0 || (members & ~31) != 0) {
             throw new IllegalArgumentException();
@@ -537,7 +545,8 @@ final class Model {
         return index;
     }
 
-    int pack(int node) {
+    @Override
+    public int pack(int node) {
         Node n = get(node);
         state(n.up);
         int result = n.result();
@@ -561,7 +570,8 @@ final class Model {
         return count;
     }
 
-    int read(int node) {
+    @Override
+    public int read(int node) {
         Node n = get(node);
         state(n.role == 2);
         if (!(w.time < lease(n) && n.termAt(n.commit) == n.term)) {
@@ -570,7 +580,8 @@ final class Model {
         return n.result();
     }
 
-    int node(int node, int what) {
+    @Override
+    public int node(int node, int what) {
         Node n = get(node);
         range(what, 13);
         int voters = 0;
@@ -583,7 +594,8 @@ final class Model {
         return all[what];
     }
 
-    int noted(int leader, int other, int what) {
+    @Override
+    public int noted(int leader, int other, int what) {
         Node n = get(leader);
         get(other);
         if (leader == other) {
@@ -594,7 +606,8 @@ final class Model {
         return n.notes.get(other)[what];
     }
 
-    int entry(int node, int index, int what) {
+    @Override
+    public int entry(int node, int index, int what) {
         Entry e = get(node).at(index);
         if (e == null) {
             throw new IndexOutOfBoundsException();
@@ -603,11 +616,13 @@ final class Model {
         return new int[] {e.term, e.kind, e.value}[what];
     }
 
-    int messages() {
+    @Override
+    public int messages() {
         return w.mail.size();
     }
 
-    int message(int i, int what) {
+    @Override
+    public int message(int i, int what) {
         if (i < 0 || i >= w.mail.size()) {
             throw new IndexOutOfBoundsException();
         }
@@ -616,7 +631,8 @@ final class Model {
         return new int[] {m.kind, m.from, m.to, m.term, m.due, m.index, m.detail}[what];
     }
 
-    int lose(int i) {
+    @Override
+    public int lose(int i) {
         if (i < 0 || i >= w.mail.size()) {
             throw new IndexOutOfBoundsException();
         }
@@ -625,20 +641,23 @@ final class Model {
         return w.mail.size();
     }
 
-    int leader() {
+    @Override
+    public int leader() {
         return Arrays.stream(w.nodes).filter(n -> n.up && n.role == 2)
                 .max((a, b) -> Integer.compare(a.term, b.term))
                 .orElseThrow(NoSuchElementException::new).id;
     }
 
-    int winner(int term) {
+    @Override
+    public int winner(int term) {
         if (term > 99 || !w.winners.containsKey(term)) {
             throw new NoSuchElementException();
         }
         return w.winners.get(term);
     }
 
-    int alike(int one, int other) {
+    @Override
+    public int alike(int one, int other) {
         Node a = get(one);
         Node b = get(other);
         if (a.snap.index > b.last() || b.snap.index > a.last()) {
@@ -656,12 +675,14 @@ final class Model {
         return best;
     }
 
-    int statistic(int what) {
+    @Override
+    public int statistic(int what) {
         range(what, 6);
         return what == 0 ? w.time : w.stats[what];
     }
 
-    double share(int node) {
+    @Override
+    public double share(int node) {
         Node n = get(node);
         double above = 0;
         int below = 0;
@@ -677,7 +698,8 @@ final class Model {
         return above / below;
     }
 
-    int feed(char letter) {
+    @Override
+    public int feed(char letter) {
         state(buffer.length() < 80);
         buffer += letter;
         return buffer.length();
@@ -691,7 +713,8 @@ final class Model {
     private static final Set<String> ONES = Set.of("tick", "crash", "restart", "pack");
     private static final Set<String> TWOS = Set.of("cut", "join", "put");
 
-    int perform() {
+    @Override
+    public int perform() {
         String script = buffer;
         buffer = "";
         List<String[]> commands = new ArrayList<>();
@@ -745,7 +768,8 @@ final class Model {
         }
     }
 
-    int write(int node) {
+    @Override
+    public int write(int node) {
         Node n = get(node);
         List<String> parts = new ArrayList<>();
         if (n.snap.index != 0) {
@@ -765,19 +789,22 @@ final class Model {
         return text.length();
     }
 
-    char text(int i) {
+    @Override
+    public char text(int i) {
         if (i < 0 || i >= text.length()) {
             throw new IndexOutOfBoundsException();
         }
         return text.charAt(i);
     }
 
-    int save() {
+    @Override
+    public int save() {
         saved = w.copy();
         return w.time;
     }
 
-    int restore() {
+    @Override
+    public int restore() {
         state(saved != null);
         w = saved.copy();
         return w.time;

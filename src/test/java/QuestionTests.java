@@ -12,7 +12,6 @@ public final class QuestionTests {
         promise13Failure();
         promise14();
         promise15And16();
-        promise15Forty();
         promise16Kinds();
         promise17();
         promise18();
@@ -24,7 +23,7 @@ public final class QuestionTests {
     }
 
     private static void promise12() {
-        QuorumLog x = new QuorumLog();
+        Face x = new Real();
         for (int node : NO_NODES) {
             Check.refuses("node(" + node + ", 0)", Check.INDEX, () -> x.node(node, 0));
             Check.refuses("node(" + node + ", 14)", Check.INDEX, () -> x.node(node, 14));
@@ -53,7 +52,7 @@ public final class QuestionTests {
     }
 
     private static void promise13() {
-        QuorumLog x = new QuorumLog();
+        Face x = new Real();
         for (int node : NO_NODES) {
             Check.refuses("leader " + node, Check.INDEX, () -> x.noted(node, 0, 0));
             Check.refuses("other " + node, Check.INDEX, () -> x.noted(0, node, 0));
@@ -82,7 +81,7 @@ public final class QuestionTests {
 
     /** The new leader begins behind its own log, and a failure leads it back at once. */
     private static void promise13Failure() {
-        QuorumLog x = new QuorumLog();
+        Face x = new Real();
         x.tick(14);
         x.crash(2);
         for (int i = 0; i < 6; i++) {
@@ -108,7 +107,7 @@ public final class QuestionTests {
     }
 
     private static void promise14() {
-        QuorumLog x = Check.started(2, 0);
+        Face x = Check.started(2, 0);
         x.tick(12);
         x.submit(1, -3);
         x.reconfigure(1, 3);
@@ -136,7 +135,7 @@ public final class QuestionTests {
     }
 
     private static void promise15And16() {
-        QuorumLog x = new QuorumLog();
+        Face x = new Real();
         Check.same("messages", x.messages(), 0);
         Check.refuses("message(0, 0)", Check.INDEX, () -> x.message(0, 0));
         Check.refuses("message(0, 9)", Check.INDEX, () -> x.message(0, 9));
@@ -157,79 +156,8 @@ public final class QuestionTests {
         Check.message("a reply", x, 0, 1, 1, 0, 1, 12, 0, 1);
     }
 
-    /** Lets one node after the other stand, until it is this one that does. */
-    private static void elect(QuorumLog x, int node, int term, int... voters) {
-        for (int n = 0; n < 5; n++) {
-            if (x.node(n, 0) == 1) {
-                x.crash(n);
-            }
-        }
-        while (x.messages() > 0) {
-            x.lose(0);
-        }
-        x.restart(node);
-        while (x.node(node, 1) != 1 || x.node(node, 2) < term || x.messages() < 4) {
-            x.tick(1);
-        }
-        for (int voter : voters) {
-            x.restart(voter);
-        }
-        x.tick(2);
-        Check.same("elected in " + x.node(node, 2), x.node(node, 1), 2);
-    }
-
-    private static void fill(QuorumLog x, int node) {
-        while (x.node(node, 5) < 24) {
-            x.submit(node, x.node(node, 5));
-        }
-    }
-
-    /**
-     * The log of node 0 differs from those of all others at each index after the first, so that
-     * it has to go back step by step, with messages under way for each step.
-     */
-    private static void promise15Forty() {
-        QuorumLog x = Check.started(31, 0);
-        elect(x, 1, 1, 2, 4);
-        x.crash(4);
-        fill(x, 1);
-        x.tick(40);
-        Check.same("two have it", x.node(2, 5), 24);
-        elect(x, 3, x.node(1, 2) + 1, 0, 4);
-        x.tick(1);
-        x.crash(0);
-        fill(x, 3);
-        x.tick(40);
-        Check.same("two have the other one", x.node(4, 5), 24);
-        elect(x, 0, x.node(3, 2) + 1, 1, 2);
-        x.crash(1);
-        x.crash(2);
-        fill(x, 0);
-        elect(x, 0, x.node(0, 2) + 1, 1, 2);
-        x.restart(3);
-        x.restart(4);
-        Check.message("the append goes on from the end", x, 0, 2, 0, 1, x.node(0, 2),
-                x.statistic(0) + 1, 24, 0);
-        x.tick(1);
-        Check.message("failure", x, 0, 3, 1, 0, x.node(0, 2), x.statistic(0) + 1, 23, 0);
-        x.setDelay(5);
-        int removed = x.statistic(5);
-        int most = 0;
-        for (int i = 0; i < 60; i++) {
-            int lost = x.statistic(2);
-            x.tick(1);
-            most = Math.max(most, x.messages());
-            Check.holds("none is lost below 40", most >= 40 || x.statistic(2) == lost);
-        }
-        Check.same("the most messages", most, 40);
-        Check.holds("more were sent and lost", x.statistic(2) > 0);
-        x.tick(60);
-        Check.same("removed", x.statistic(5) - removed, 2 * 24 + 2 * 23);
-        Check.holds("the logs become alike", x.alike(0, 1) == 24 && x.alike(0, 4) == 24);
-    }
-
     private static void promise16Kinds() {
-        QuorumLog x = new QuorumLog();
+        Face x = new Real();
         x.tick(14);
         for (int i = 0; i < 3; i++) {
             x.submit(0, i);
@@ -249,7 +177,7 @@ public final class QuestionTests {
     }
 
     private static void promise17() {
-        QuorumLog x = new QuorumLog();
+        Face x = new Real();
         Check.refuses("lose(0)", Check.INDEX, () -> x.lose(0));
         x.start(31, 0);
         x.tick(8);
@@ -273,7 +201,7 @@ public final class QuestionTests {
     }
 
     private static void promise18() {
-        QuorumLog x = new QuorumLog();
+        Face x = new Real();
         x.tick(9);
         Check.refuses("no leader", Check.NO_ELEMENT, () -> x.leader());
         x.tick(5);
@@ -292,7 +220,7 @@ public final class QuestionTests {
     }
 
     private static void promise18OtherOrder() {
-        QuorumLog x = new QuorumLog();
+        Face x = new Real();
         x.crash(0);
         x.crash(1);
         x.tick(14);
@@ -308,7 +236,7 @@ public final class QuestionTests {
     }
 
     private static void promise19() {
-        QuorumLog x = Check.started(1, 0);
+        Face x = Check.started(1, 0);
         for (int i = 1; i <= 101; i++) {
             x.tick(16);
             x.pack(0);
@@ -323,7 +251,7 @@ public final class QuestionTests {
         for (int term : new int[] {0, -1, 100, 101, MIN, MAX}) {
             Check.refuses("winner(" + term + ")", Check.NO_ELEMENT, () -> x.winner(term));
         }
-        QuorumLog y = new QuorumLog();
+        Face y = new Real();
         y.tick(8);
         Check.refuses("who stands has not won", Check.NO_ELEMENT, () -> y.winner(1));
         y.crash(0);
@@ -333,7 +261,7 @@ public final class QuestionTests {
     }
 
     private static void promise20() {
-        QuorumLog x = new QuorumLog();
+        Face x = new Real();
         for (int node : NO_NODES) {
             Check.refuses("alike(" + node + ", 0)", Check.INDEX, () -> x.alike(node, 0));
             Check.refuses("alike(0, " + node + ")", Check.INDEX, () -> x.alike(0, node));
@@ -363,7 +291,7 @@ public final class QuestionTests {
     }
 
     private static void promise21() {
-        QuorumLog x = new QuorumLog();
+        Face x = new Real();
         for (int what : new int[] {-1, 7, MIN, MAX}) {
             Check.refuses("statistic(" + what + ")", Check.ARGUMENT, () -> x.statistic(what));
         }
@@ -387,7 +315,7 @@ public final class QuestionTests {
     }
 
     private static void promise22() {
-        QuorumLog x = new QuorumLog();
+        Face x = new Real();
         for (int node : NO_NODES) {
             Check.refuses("share(" + node + ")", Check.INDEX, () -> x.share(node));
         }

@@ -40,7 +40,7 @@ public final class SimulationTests {
     }
 
     private static void promise1() {
-        QuorumLog x = new QuorumLog();
+        Face x = new Real();
         int[] timers = {8, 11, 14, 10, 13};
         for (int n = 0; n < 5; n++) {
             Check.node("new", x, n, 1, 0, 0, -1, 0, 0, 0, 0, 0, timers[n], 0, 7, -1, 0);
@@ -61,7 +61,7 @@ public final class SimulationTests {
     }
 
     private static void promise2() {
-        QuorumLog x = new QuorumLog();
+        Face x = new Real();
         x.tick(3);
         for (int members : new int[] {0, 32, 63, -1, MIN, MAX}) {
             Check.refuses("start(" + members + ")", Check.ARGUMENT, () -> x.start(members, 1));
@@ -78,7 +78,7 @@ public final class SimulationTests {
     }
 
     private static void promise2BeginsAnew() {
-        QuorumLog x = new QuorumLog();
+        Face x = new Real();
         x.tick(20);
         x.submit(0, 7);
         x.tick(5);
@@ -111,7 +111,7 @@ public final class SimulationTests {
     }
 
     private static void promise2AfterMore() {
-        QuorumLog x = withConflict();
+        Face x = withConflict();
         int leader = x.leader();
         x.setLink(0, 1, false);
         x.setLink(0, 2, false);
@@ -137,7 +137,7 @@ public final class SimulationTests {
     }
 
     /** Leaves the leader with a joint configuration as the last of 24 entries. */
-    private static void fillJoint(QuorumLog x) {
+    private static void fillJoint(Face x) {
         x.tick(16);
         for (int i = 2; i <= 23; i++) {
             x.submit(0, i);
@@ -152,7 +152,7 @@ public final class SimulationTests {
 
     private static void promise2Timers() {
         for (int seed : new int[] {0, 1, -1, 77, -1000, MAX, MIN, MAX - 3}) {
-            QuorumLog x = Check.started(31, seed);
+            Face x = Check.started(31, seed);
             int first = 99;
             for (int n = 0; n < 5; n++) {
                 Check.same("timer of " + n + " with seed " + seed, x.node(n, 9), timeout(seed, 0, n));
@@ -168,7 +168,7 @@ public final class SimulationTests {
     }
 
     private static void promise3() {
-        QuorumLog x = new QuorumLog();
+        Face x = new Real();
         for (int ticks : new int[] {0, -1, 61, MIN, MAX}) {
             Check.refuses("tick(" + ticks + ")", Check.ARGUMENT, () -> x.tick(ticks));
         }
@@ -181,7 +181,7 @@ public final class SimulationTests {
 
     /** Seed 0: the node 0 has the least timeout, 8. */
     private static void promise3Election() {
-        QuorumLog x = new QuorumLog();
+        Face x = new Real();
         x.tick(7);
         Check.node("at 7", x, 0, 1, 0, 0, -1, 0, 0, 0, 0, 0, 1);
         Check.same("messages at 7", x.messages(), 0);
@@ -206,7 +206,7 @@ public final class SimulationTests {
     }
 
     private static void promise3Replication() {
-        QuorumLog x = new QuorumLog();
+        Face x = new Real();
         x.tick(11);
         Check.node("at 11", x, 1, 1, 0, 1, 0, 0, 1, 1, 0, 0, 11);
         Check.message("at 11", x, 0, 3, 1, 0, 1, 12, 1, 1);
@@ -223,7 +223,7 @@ public final class SimulationTests {
 
     /** A log that is behind gets no vote from one that is ahead; a second one in a term neither. */
     private static void promise3Votes() {
-        QuorumLog x = new QuorumLog();
+        Face x = new Real();
         x.tick(9);
         x.setLink(0, 2, true);
         x.tick(6);
@@ -252,7 +252,7 @@ public final class SimulationTests {
 
     /** A delay of 4 lets the nodes 0 and 1 stand in the same term, at 8 and 11. */
     private static void promise3TwoCandidates() {
-        QuorumLog x = new QuorumLog();
+        Face x = new Real();
         x.setDelay(4);
         x.tick(11);
         Check.node("the first one", x, 0, 1, 1, 1, 0);
@@ -275,7 +275,7 @@ public final class SimulationTests {
 
     /** A leader that was cut off learns of the greater term by a failure with the index 0. */
     private static void promise3GreaterTerm() {
-        QuorumLog x = withConflict();
+        Face x = withConflict();
         int newer = x.leader();
         int other = 3 - newer;
         x.setLink(0, other, false);
@@ -296,7 +296,7 @@ public final class SimulationTests {
     }
 
     private static void promise3ConfigurationOverwritten() {
-        QuorumLog x = new QuorumLog();
+        Face x = new Real();
         x.tick(14);
         x.setLink(0, 1, true);
         x.setLink(0, 2, true);
@@ -313,8 +313,8 @@ public final class SimulationTests {
         Check.same("the group as before", x.node(0, 11), 7);
     }
 
-    private static QuorumLog withConflict() {
-        QuorumLog x = new QuorumLog();
+    private static Face withConflict() {
+        Face x = new Real();
         x.tick(14);
         x.setLink(0, 1, true);
         x.setLink(0, 2, true);
@@ -326,7 +326,7 @@ public final class SimulationTests {
     }
 
     private static void promise3Conflict() {
-        QuorumLog x = withConflict();
+        Face x = withConflict();
         Check.log("alone", x, 0, "1:-! 1:1 1:2 1:3 1:4 1:5 1:6");
         Check.same("the old leader leads still", x.node(0, 1), 2);
         int leader = x.leader();
@@ -344,7 +344,7 @@ public final class SimulationTests {
     }
 
     private static void promise3SnapshotMessage() {
-        QuorumLog x = withConflict();
+        Face x = withConflict();
         int leader = x.leader();
         x.submit(leader, 50);
         x.tick(12);
@@ -374,7 +374,7 @@ public final class SimulationTests {
     }
 
     private static void promise3Batches() {
-        QuorumLog x = new QuorumLog();
+        Face x = new Real();
         x.tick(14);
         for (int i = 0; i < 6; i++) {
             x.submit(0, i);
@@ -392,7 +392,7 @@ public final class SimulationTests {
 
     /** A follower that has packed less than its leader has no room for all entries. */
     private static void promise3FullFollower() {
-        QuorumLog x = new QuorumLog();
+        Face x = new Real();
         x.tick(14);
         for (int i = 0; i < 23; i++) {
             x.submit(0, i);
@@ -413,7 +413,7 @@ public final class SimulationTests {
     }
 
     private static void promise4() {
-        QuorumLog x = new QuorumLog();
+        Face x = new Real();
         for (int delay : new int[] {0, 6, -1, MIN, MAX}) {
             Check.refuses("setDelay(" + delay + ")", Check.ARGUMENT, () -> x.setDelay(delay));
         }
@@ -431,7 +431,7 @@ public final class SimulationTests {
     }
 
     private static void promise5() {
-        QuorumLog x = new QuorumLog();
+        Face x = new Real();
         for (int node : new int[] {-1, 5, MIN, MAX}) {
             Check.refuses("setLink(" + node + ", 0)", Check.INDEX, () -> x.setLink(node, 0, true));
             Check.refuses("setLink(0, " + node + ")", Check.INDEX, () -> x.setLink(0, node, true));
@@ -460,7 +460,7 @@ public final class SimulationTests {
     }
 
     private static void promise6() {
-        QuorumLog x = new QuorumLog();
+        Face x = new Real();
         for (int node : new int[] {-1, 5, MIN, MAX}) {
             Check.refuses("crash(" + node + ")", Check.INDEX, () -> x.crash(node));
         }
@@ -478,7 +478,7 @@ public final class SimulationTests {
         Check.same("the one to the other node is answered", x.messages(), 1);
         x.tick(1);
         Check.same("and this answer is lost", x.statistic(2), 2);
-        QuorumLog y = new QuorumLog();
+        Face y = new Real();
         y.tick(8);
         y.crash(0);
         Check.node("a candidate", y, 0, 0, 0, 1, 0);
@@ -486,7 +486,7 @@ public final class SimulationTests {
     }
 
     private static void promise7() {
-        QuorumLog x = new QuorumLog();
+        Face x = new Real();
         for (int node : new int[] {-1, 5, MIN, MAX}) {
             Check.refuses("restart(" + node + ")", Check.INDEX, () -> x.restart(node));
         }
@@ -509,7 +509,7 @@ public final class SimulationTests {
     }
 
     private static void promise8() {
-        QuorumLog x = new QuorumLog();
+        Face x = new Real();
         x.tick(14);
         for (int node : new int[] {-1, 5, MIN, MAX}) {
             Check.refuses("submit(" + node + ")", Check.INDEX, () -> x.submit(node, 1));
@@ -528,7 +528,7 @@ public final class SimulationTests {
     }
 
     private static void promise8FullLog() {
-        QuorumLog x = Check.started(4, 0);
+        Face x = Check.started(4, 0);
         x.tick(14);
         for (int i = 2; i <= 24; i++) {
             Check.same("submit", x.submit(2, i), i);
@@ -542,7 +542,7 @@ public final class SimulationTests {
     }
 
     private static void promise9() {
-        QuorumLog x = new QuorumLog();
+        Face x = new Real();
         for (int node : new int[] {-1, 5, MIN, MAX}) {
             Check.refuses("node " + node, Check.INDEX, () -> x.reconfigure(node, 0));
         }
@@ -573,7 +573,7 @@ public final class SimulationTests {
 
     /** The entry of the new group is not committed by the call that appends it. */
     private static void promise9Alone() {
-        QuorumLog x = Check.started(1, 3);
+        Face x = Check.started(1, 3);
         x.tick(16);
         Check.same("reconfigure", x.reconfigure(0, 1), 2);
         Check.log("alone", x, 0, "1:-! 1:J33! 1:C1");
@@ -589,7 +589,7 @@ public final class SimulationTests {
     }
 
     private static void promise9WithoutTheLeader() {
-        QuorumLog x = Check.started(3, 0);
+        Face x = Check.started(3, 0);
         x.tick(14);
         Check.same("the leader", x.leader(), 0);
         x.reconfigure(0, 4);
@@ -603,7 +603,7 @@ public final class SimulationTests {
 
     /** A joint configuration in a full log waits for room. */
     private static void promise9Order() {
-        QuorumLog x = Check.started(1, 3);
+        Face x = Check.started(1, 3);
         fillJoint(x);
         Check.node("joint", x, 0, 1, 2, 1, 0, 24, 24, 1, 0);
         Check.same("its old group", x.node(0, 10), 1);
@@ -616,7 +616,7 @@ public final class SimulationTests {
     }
 
     private static void promise10() {
-        QuorumLog x = new QuorumLog();
+        Face x = new Real();
         for (int node : new int[] {-1, 5, MIN, MAX}) {
             Check.refuses("pack(" + node + ")", Check.INDEX, () -> x.pack(node));
         }
@@ -643,7 +643,7 @@ public final class SimulationTests {
 
     /** The entries of configurations leave the log, and the configuration stays. */
     private static void promise10Joint() {
-        QuorumLog x = new QuorumLog();
+        Face x = new Real();
         x.tick(14);
         x.reconfigure(0, 3);
         x.tick(6);
@@ -661,7 +661,7 @@ public final class SimulationTests {
     }
 
     private static void promise11() {
-        QuorumLog x = new QuorumLog();
+        Face x = new Real();
         for (int node : new int[] {-1, 5, MIN, MAX}) {
             Check.refuses("read(" + node + ")", Check.INDEX, () -> x.read(node));
         }
@@ -683,7 +683,7 @@ public final class SimulationTests {
         x.tick(1);
         Check.same("the lease", x.node(0, 12), 21);
         Check.refuses("at its end", Check.UNSUPPORTED, () -> x.read(0));
-        QuorumLog y = Check.started(1, 0);
+        Face y = Check.started(1, 0);
         y.tick(50);
         Check.same("alone", y.node(0, 12), 56);
         Check.same("alone", y.read(0), 0);
@@ -691,7 +691,7 @@ public final class SimulationTests {
 
     /** A leader whose log is full has no entry of its own term, though it has a lease. */
     private static void promise11OwnTerm() {
-        QuorumLog x = new QuorumLog();
+        Face x = new Real();
         x.tick(14);
         for (int i = 0; i < 23; i++) {
             x.submit(0, 1);

@@ -18,7 +18,7 @@ public final class TextTests {
     }
 
     private static void promise23() {
-        QuorumLog x = new QuorumLog();
+        Face x = new Real();
         char[] strange = {0, ' ', 'z', (char) 255, (char) 256, Character.MAX_VALUE};
         for (int i = 1; i <= 80; i++) {
             Check.same("feed", x.feed(strange[i % strange.length]), i);
@@ -30,7 +30,7 @@ public final class TextTests {
     }
 
     private static void promise24() {
-        QuorumLog x = new QuorumLog();
+        Face x = new Real();
         Check.same("tick", Check.perform(x, "tick 14;"), 1);
         Check.same("the time", x.statistic(0), 14);
         Check.same("put", Check.perform(x, "put 0,999;put 0,7;"), 2);
@@ -54,7 +54,7 @@ public final class TextTests {
     }
 
     private static void promise24Errors() {
-        QuorumLog x = new QuorumLog();
+        Face x = new Real();
         Object[][] errors = {
             {"", 0}, {";", 0}, {" ", 0}, {"1", 0}, {"Tick 1;", 0}, {"ti", 0}, {"tic 1;", 0},
             {"ticks 1;", 0}, {"tickcut 1;", 0}, {"tick", 4}, {"tick;", 4}, {"tick1;", 4},
@@ -84,12 +84,12 @@ public final class TextTests {
             "put 5,1;", "pack 5;", "crash 4;crash 4;", "crash 4;pack 4;", "crash 0;put 0,1;",
         };
         for (String script : scripts) {
-            QuorumLog x = new QuorumLog();
+            Face x = new Real();
             Check.feed(x, script);
             Check.refuses("perform of " + script, Check.UNSUPPORTED, () -> x.perform());
             Check.same("the buffer is empty after " + script, x.feed('t'), 1);
         }
-        QuorumLog x = Check.started(1, 0);
+        Face x = Check.started(1, 0);
         x.tick(16);
         for (int i = 2; i <= 24; i++) {
             Check.same("put", Check.perform(x, "put 0,1;"), 1);
@@ -99,7 +99,7 @@ public final class TextTests {
     }
 
     private static void promise24Stops() {
-        QuorumLog x = new QuorumLog();
+        Face x = new Real();
         Check.feed(x, "tick 3;crash 2;tick 4;cut 0,0;tick 5;crash 1;");
         Check.refuses("perform", Check.UNSUPPORTED, () -> x.perform());
         Check.same("the ones before stay performed", x.statistic(0), 7);
@@ -111,7 +111,7 @@ public final class TextTests {
     }
 
     private static void promise25() {
-        QuorumLog x = Check.started(2, 0);
+        Face x = Check.started(2, 0);
         for (int node : new int[] {-1, 5, Integer.MIN_VALUE, Integer.MAX_VALUE}) {
             Check.refuses("write(" + node + ")", Check.INDEX, () -> x.write(node));
         }
@@ -138,7 +138,7 @@ public final class TextTests {
     }
 
     private static void promise26() {
-        QuorumLog x = Check.started(2, 0);
+        Face x = Check.started(2, 0);
         Check.refuses("no text yet", Check.INDEX, () -> x.text(0));
         x.tick(12);
         Check.refuses("no text yet", Check.INDEX, () -> x.text(0));
@@ -159,44 +159,46 @@ public final class TextTests {
     }
 
     private static void promise27And28() {
-        QuorumLog x = new QuorumLog();
+        Face x = new Real();
         Check.refuses("nothing was saved", Check.STATE, () -> x.restore());
-        x.setDelay(2);
-        x.setLink(3, 4, true);
-        x.tick(21);
-        x.submit(x.leader(), 6);
-        x.tick(1);
-        int leader = x.leader();
-        int[][] before = told(x);
-        Check.holds("there are messages", x.messages() > 0);
-        Check.same("save", x.save(), 22);
+        Looks.Run saved = y -> {
+            y.setDelay(2);
+            y.setLink(3, 4, true);
+            y.tick(21);
+            y.submit(y.leader(), 6);
+            y.tick(1);
+            Check.holds("there are messages", y.messages() > 0);
+            Check.same("save", y.save(), 22);
+        };
+        Check.alike("restored", y -> {
+            saved.on(y);
+            y.setDelay(5);
+            y.setLink(3, 4, false);
+            y.tick(40);
+            y.crash(y.leader());
+            y.tick(40);
+            y.start(16, 99);
+            y.tick(30);
+            Check.same("restore", y.restore(), 22);
+        }, saved);
+        saved.on(x);
         x.feed('t');
+        int leader = x.leader();
         int length = x.write(leader);
         char last = x.text(length - 1);
         x.setDelay(5);
-        x.setLink(3, 4, false);
         x.tick(40);
-        x.crash(leader);
-        x.tick(40);
-        x.start(16, 99);
-        x.tick(30);
-        Check.same("restore", x.restore(), 22);
-        same("restored", told(x), before);
+        x.restore();
         Check.same("the delay", x.setDelay(2), 2);
         Check.holds("the link", x.setLink(3, 4, true));
         Check.same("the winner", x.winner(1), leader);
         Check.refuses("the other winners", Check.NO_ELEMENT, () -> x.winner(2));
         Check.same("the input buffer is not restored", x.feed('i'), 2);
         Check.same("nor the text", x.text(length - 1), last);
-        x.tick(20);
-        int[][] later = told(x);
-        x.restore();
-        x.tick(20);
-        same("the same goes on", told(x), later);
     }
 
     private static void promise28StaysSaved() {
-        QuorumLog x = new QuorumLog();
+        Face x = new Real();
         Check.same("save at 0", x.save(), 0);
         x.tick(30);
         Check.same("restore", x.restore(), 0);
@@ -213,19 +215,22 @@ public final class TextTests {
         x.tick(9);
         Check.same("restore", x.restore(), 14);
         Check.log("what was saved", x, 0, "1:-! 1:1");
-        x.start(7, 12345);
-        x.save();
-        x.tick(30);
-        int[][] later = told(x);
-        x.start(7, 54321);
-        x.restore();
-        x.tick(30);
-        same("the seed is restored", told(x), later);
+        Looks.Run saved = y -> {
+            y.start(7, 12345);
+            y.save();
+            y.tick(30);
+        };
+        Check.alike("the seed is restored", y -> {
+            saved.on(y);
+            y.start(7, 54321);
+            y.restore();
+            y.tick(30);
+        }, saved);
     }
 
     /** A joint configuration in a snapshot, first in a message and then in a node. */
     private static void promise28JointSnapshot() {
-        QuorumLog x = new QuorumLog();
+        Face x = new Real();
         x.tick(14);
         x.reconfigure(0, 15);
         x.crash(3);
@@ -248,111 +253,49 @@ public final class TextTests {
         Check.log("with the next one", x, 3, "[2] 1:C15!");
     }
 
-    /** One object is disturbed between a save and a restore, in each step of a long run. */
+    /** After each step of a long run, much is done between a save and a restore. */
     private static void promise28InEachState() {
-        QuorumLog x = Check.started(31, 0);
-        QuorumLog y = Check.started(31, 0);
-        int packed = 0;
-        int voters = 0;
-        for (int i = 1; i <= 300; i++) {
-            step(x, i);
-            y.save();
-            disturb(y, i);
-            y.restore();
-            step(y, i);
-            same("after the step " + i, told(y), told(x));
-            packed += x.node(i % 5, 7) > 0 ? 1 : 0;
-            voters += Integer.bitCount(x.node(0, 13)) == 2 ? 1 : 0;
+        for (int steps = 4; steps <= 40; steps += 4) {
+            int end = steps;
+            Looks.Run saved = x -> {
+                x.start(31, 0);
+                for (int i = 1; i <= end; i++) {
+                    step(x, i);
+                }
+                x.save();
+            };
+            Check.alike("after " + steps + " steps", x -> {
+                saved.on(x);
+                disturb(x, end);
+                x.restore();
+            }, saved);
         }
-        Check.holds("snapshots were sent", x.statistic(6) > 1);
-        Check.holds("entries were removed", x.statistic(5) > 1);
-        Check.holds("there were snapshots", packed > 50);
-        Check.holds("there were candidates with one voter more", voters > 0);
     }
 
-    private static void step(QuorumLog x, int i) {
-        int leader = 0;
-        for (int n = 0; n < 5; n++) {
-            leader = x.node(n, 1) == 2 && x.node(n, 2) > x.node(leader, 2) ? n : leader;
-        }
-        if (x.node(leader, 1) == 2 && x.node(leader, 5) - x.node(leader, 7) < 22) {
-            x.submit(leader, i);
-        }
-        if (i % 29 == 0) {
-            x.setLink(leader, (leader + 1) % 5, i % 2 == 0);
-            x.setLink(leader, (leader + 2) % 5, i % 2 == 0);
-            x.setLink(leader, (leader + 3) % 5, i % 2 == 0);
-        }
-        if (i % 23 == 0 && x.node(leader, 0) == 1) {
-            x.pack(leader);
-        }
-        if (i % 37 == 0 && x.node((leader + 1) % 5, 0) == 1) {
-            x.crash((leader + 1) % 5);
-        }
-        if (i % 67 == 0 && x.node(leader, 0) == 1) {
-            x.crash(leader);
-        }
-        for (int n = 0; n < 5 && i % 29 == 0; n++) {
-            if (x.node(n, 0) == 0) {
-                x.restart(n);
-            }
-        }
-        if (i % 11 == 0) {
+    /** Calls that are refused change nothing. */
+    private static void step(Face x, int i) {
+        int n = i % 5;
+        Check.attempt(y -> y.submit(n, i), x);
+        Check.attempt(i % 7 == 0 ? y -> y.crash(n) : y -> y.restart(n), x);
+        x.setLink(n, (i + 2) % 5, i % 6 == 0);
+        if (i % 9 == 0) {
+            Check.attempt(y -> y.pack(n), x);
             x.setDelay(1 + i % 3);
         }
-        if (x.messages() > 0 && i % 3 == 0) {
-            x.lose(i % x.messages());
-        }
-        x.tick(1);
+        x.tick(1 + i % 4);
     }
 
-    private static void disturb(QuorumLog x, int i) {
+    private static void disturb(Face x, int i) {
         x.start(1 + i % 31, i);
         x.setDelay(1 + i % 5);
         x.tick(12);
-        for (int k = 0; k < 20; k++) {
-            for (int n = 0; n < 5; n++) {
-                if (x.node(n, 1) == 2 && x.node(n, 5) < 24) {
-                    x.submit(n, k);
-                }
-            }
+        for (int n = 0; n < 5; n++) {
+            int node = n;
+            Check.attempt(y -> y.submit(node, 7), x);
+            Check.attempt(y -> y.reconfigure(node, 6), x);
         }
         x.tick(7);
         x.pack(i % 5);
         x.tick(1 + i % 3);
-    }
-
-    /** All numbers about the simulation. */
-    private static int[][] told(QuorumLog x) {
-        int[][] all = new int[12 + x.messages()][];
-        for (int n = 0; n < 5; n++) {
-            all[n] = new int[14];
-            for (int what = 0; what < 14; what++) {
-                all[n][what] = x.node(n, what);
-            }
-            int last = x.node(n, 5);
-            all[5 + n] = new int[3 * last];
-            for (int i = x.node(n, 7); i < last; i++) {
-                for (int what = 0; what < 3; what++) {
-                    all[5 + n][3 * i + what] = x.entry(n, i + 1, what);
-                }
-            }
-        }
-        all[10] = new int[7];
-        for (int what = 0; what < 7; what++) {
-            all[10][what] = x.statistic(what);
-        }
-        all[11] = new int[] {x.messages()};
-        for (int m = 0; m < x.messages(); m++) {
-            all[12 + m] = new int[7];
-            for (int what = 0; what < 7; what++) {
-                all[12 + m][what] = x.message(m, what);
-            }
-        }
-        return all;
-    }
-
-    private static void same(String what, int[][] got, int[][] due) {
-        Check.holds(what, java.util.Arrays.deepEquals(got, due));
     }
 }
