@@ -15,6 +15,10 @@ final class Check {
     static final Class<?> NO_ELEMENT = java.util.NoSuchElementException.class;
     static final Class<?> ARITHMETIC = ArithmeticException.class;
 
+    static final String UNCHANGED =
+            "A method that throws an exception or returns an error code leaves the state unchanged, unless"
+            + " its description says otherwise.";
+
     private static final Path DOCUMENT = Path.of("../shared/DOC.md");
 
     private static final Map<Looks.Run, List<String>> BEFORE = new IdentityHashMap<>();
@@ -94,10 +98,13 @@ final class Check {
         Face x = new Real();
         before.on(x);
         refuses(what, due, () -> call.on(x));
+        String named = sentence;
+        sentence(UNCHANGED);
         alike("the state after " + what, y -> {
             before.on(y);
             attempt(call, y);
         }, BEFORE.computeIfAbsent(before, run -> Looks.of(Real::new, run)));
+        sentence = named;
     }
 
     static void attempt(Looks.Run call, Face x) {

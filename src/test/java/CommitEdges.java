@@ -33,6 +33,7 @@ public final class CommitEdges {
         afterAppending();
         leaseOfNone();
         leaseOfTheGreatestTime();
+        leaseByEachNode();
         leaseAlone();
         leaseOfAJointGroup();
         readBeforeTheEnd();
@@ -239,6 +240,29 @@ public final class CommitEdges {
         Check.same("the next one", y.noted(0, 2, 2), 15);
         Check.same("the least one", y.noted(0, 3, 2), 12);
         Check.same("three of five by the next one", y.node(0, 12), 21);
+    }
+
+    /** Each of two others in turn is the one that is heard of. */
+    private static void leaseByEachNode() {
+        Check.sentence(LEASE);
+        for (int leader = 0; leader < 5; leader++) {
+            for (int other = 0; other < 5; other++) {
+                if (other == leader) {
+                    continue;
+                }
+                Face x = Check.started(1 << leader | 1 << other, 0);
+                x.crash(other);
+                x.tick(x.node(leader, 9));
+                x.restart(other);
+                x.tick(2);
+                int time = x.statistic(0);
+                Check.same("no echo", x.node(leader, 12), -1);
+                x.tick(2);
+                Check.same("an echo", x.noted(leader, other, 2), time);
+                Check.same("the lease of " + leader + " by " + other, x.node(leader, 12), time + 6);
+                Check.same("read", x.read(leader), 0);
+            }
+        }
     }
 
     private static void leaseAlone() {

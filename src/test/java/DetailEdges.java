@@ -6,6 +6,7 @@ public final class DetailEdges {
         keptTimer();
         committedSnapshot();
         committedFirstConfiguration();
+        committedAfterAnother();
         successOfNoMember();
         failureOfNoMember();
         downAndUp();
@@ -18,6 +19,8 @@ public final class DetailEdges {
         lostBecauseOfForty();
         termOfASnapshot();
         configurationOfASnapshot();
+        configurationOfASnapshotThatIsSent();
+        entriesAfterASnapshot();
         Check.end("DetailEdges");
     }
 
@@ -73,6 +76,36 @@ public final class DetailEdges {
         x.tick(10);
         Check.same("nothing is committed", x.node(0, 4), 0);
         Check.same("that of the first snapshot", x.reconfigure(0, 3), 2);
+        x.start(7, 0);
+        x.tick(10);
+        Check.same("that of the first snapshot after another start", x.reconfigure(0, 3), 2);
+    }
+
+    /** A joint configuration of node 0 is overwritten, and node 0 leads again. */
+    private static void committedAfterAnother() {
+        Check.sentence(SNAPSHOT);
+        Face x = new Real();
+        Scenes.three(x);
+        x.setLink(0, 1, true);
+        x.setLink(0, 2, true);
+        Check.fill(x, 0, 3);
+        x.reconfigure(0, 3);
+        x.tick(12);
+        x.setLink(0, 1, false);
+        x.setLink(0, 2, false);
+        x.tick(2);
+        Check.log("overwritten", x, 0, "1:-! 2:-!");
+        Check.same("not joint", x.node(0, 10), 0);
+        x.crash(1);
+        x.crash(2);
+        x.crash(0);
+        x.restart(0);
+        Check.loseAll(x);
+        x.tick(x.node(0, 9));
+        x.restart(1);
+        x.tick(2);
+        Check.node("it leads again", x, 0, 1, 2, 3, 0, 0, 3, 3);
+        Check.same("that of the first snapshot", x.reconfigure(0, 3), 4);
     }
 
     private static final String MEMBERS_OR_NOT =
@@ -180,6 +213,7 @@ public final class DetailEdges {
     }
 
     private static void timerOfAWinner() {
+        Check.sentence("The node becomes a leader; its timer becomes 3.");
         Check.sentence("A node that wins by a message in a tick has its timer decreased in the same tick.");
         Face x = new Real();
         x.tick(10);
@@ -345,5 +379,67 @@ public final class DetailEdges {
         y.tick(3);
         Check.same("pack without one", y.pack(0), 1);
         Check.same("that of the snapshot before", y.node(0, 11), 3);
+    }
+
+    /** The leader has the joint configuration in its snapshot, and the new group behind it. */
+    private static void configurationOfASnapshotThatIsSent() {
+        Check.sentence("The configuration of the snapshot is that of the last entry of kind 1 or 2 among"
+                + " these, or that of the snapshot before.");
+        Looks.Run before = x -> {
+            Scenes.three(x);
+            x.reconfigure(0, 15);
+            x.crash(3);
+            x.tick(3);
+            Check.same("pack", x.pack(0), 2);
+            x.restart(3);
+            x.tick(1);
+        };
+        Face x = new Real();
+        before.on(x);
+        Check.log("the leader", x, 0, "[2] 1:C15");
+        Check.message("the snapshot", x, 2, 4, 0, 3, 1, 19, 2, 1);
+        x.tick(1);
+        Check.node("joint", x, 3, 1, 0, 1, -1, 2, 2, 1, 2, 0, 10, 7, 15, -1, 0);
+        x.tick(3);
+        Check.node("and then not", x, 3, 1, 0, 1, -1, 3, 3, 1, 2, 0, 10, 0, 15, -1, 0);
+        Face y = new Real();
+        before.on(y);
+        y.tick(1);
+        Looks.Run installed = z -> {
+            before.on(z);
+            z.tick(1);
+            z.save();
+        };
+        Check.sentence("What is saved contains delay, links, messages, statistics and winners");
+        Check.alike("restored", z -> {
+            installed.on(z);
+            z.start(31, 9);
+            z.tick(30);
+            z.restore();
+        }, installed);
+        Check.sentence("their configuration consists of one group, the members");
+        y.start(6, 0);
+        Check.node("no old group", y, 3, 1, 0, 0, -1, 0, 0, 0, 0, 0, 10, 0, 6, -1, 0);
+    }
+
+    /** The entries that stay keep their terms, kinds and values. */
+    private static void entriesAfterASnapshot() {
+        Check.sentence("its entries up to there are removed from its log");
+        Face x = new Real();
+        Scenes.three(x);
+        x.submit(0, -4);
+        x.tick(2);
+        x.crash(0);
+        Check.loseAll(x);
+        x.tick(x.node(2, 9) + 2);
+        x.submit(2, 8);
+        x.reconfigure(2, 6);
+        Check.log("before", x, 2, "1:-! 1:-4 2:- 2:8 2:J230");
+        Check.same("pack", x.pack(2), 1);
+        Check.log("after", x, 2, "[1] 1:-4 2:- 2:8 2:J230");
+        Check.same("the last term", x.node(2, 6), 2);
+        x.tick(4);
+        Check.log("committed", x, 2, "[1] 1:-4! 2:-! 2:8! 2:J230! 2:C6");
+        Check.same("its result", x.node(2, 8), 31 * -4 + 8);
     }
 }

@@ -19,7 +19,9 @@ public final class LogEdges {
         quorumOfHolders();
         quorumOfEchoes();
         jointQuorumOfHolders();
+        jointQuorumWithHalves();
         jointQuorumOfVoters();
+        members();
         results();
         Check.end("LogEdges");
     }
@@ -257,6 +259,25 @@ public final class LogEdges {
         }
     }
 
+    /** Half of a group is never enough, whichever of both it is. */
+    private static void jointQuorumWithHalves() {
+        Check.sentence(QUORUM);
+        int[][] changes = {{3, 13}, {13, 3}, {15, 25}, {25, 15}, {15, 15}, {3, 3}, {31, 1}, {1, 31}};
+        for (int[] change : changes) {
+            for (int set = 1; set < 32; set += 2) {
+                Face x = Check.started(change[0], 0);
+                x.tick(14);
+                x.reconfigure(0, change[1]);
+                leaveUp(x, set);
+                x.tick(5);
+                boolean isQuorum = isMajority(set, change[0]) && isMajority(set, change[1]);
+                Check.same("from " + change[0] + " to " + change[1] + " with " + set, x.entry(0, 2, 1), 1);
+                Check.same("from " + change[0] + " to " + change[1] + " with " + set,
+                        x.node(0, 4) >= 2 ? 1 : 0, isQuorum ? 1 : 0);
+            }
+        }
+    }
+
     /** All have the joint configuration, and who stands needs both groups. */
     private static void jointQuorumOfVoters() {
         Check.sentence(QUORUM);
@@ -280,6 +301,30 @@ public final class LogEdges {
             boolean isQuorum = isMajority(set, 7) && isMajority(set, 25);
             Check.same("an election among " + set, x.statistic(4) > 1 ? 1 : 0, isQuorum ? 1 : 0);
         }
+    }
+
+    private static void members() {
+        Check.sentence("Its members are the nodes of its groups.");
+        Face x = new Real();
+        Scenes.three(x);
+        x.reconfigure(0, 17);
+        x.tick(1);
+        int[] members = {1, 2, 4};
+        Check.same("messages to the members of both groups", x.messages(), 3);
+        for (int i = 0; i < 3; i++) {
+            Check.same("in ascending order", x.message(i, 2), members[i]);
+        }
+        x.tick(2);
+        Check.same("not joint", x.node(0, 10), 0);
+        Check.loseAll(x);
+        x.tick(1);
+        Check.same("messages to the members of the new group", x.messages(), 1);
+        Check.same("the other one", x.message(0, 2), 4);
+        x.crash(0);
+        int timer = x.node(3, 9);
+        x.tick(7);
+        Check.same("a member counts down by its own configuration", x.node(4, 9), 8);
+        Check.same("no member does not", x.node(3, 9), timer);
     }
 
     private static void results() {

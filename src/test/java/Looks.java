@@ -44,7 +44,9 @@ final class Looks {
         looks.links();
         looks.script();
         looks.saved();
-        looks.later();
+        looks.later(1);
+        looks.later(3);
+        looks.later(60);
         return looks.seen;
     }
 
@@ -208,9 +210,9 @@ final class Looks {
         askNodes();
     }
 
-    private void later() {
+    private void later(int ticks) {
         again();
-        ask("tick(60)", () -> x.tick(60));
+        ask("tick(" + ticks + ")", () -> x.tick(ticks));
         askNodes();
         for (int k = 0; k <= 6; k++) {
             int what = k;

@@ -155,7 +155,8 @@ public final class MessageEdges {
                 + " (seed + 5 * t + n) * -1640531527, with overflow, shifted right by 20 without sign.");
         int least = MAX;
         int greatest = 0;
-        for (int seed : new int[] {0, 1, 9, 17, -1, -2, 1000, MAX, MAX - 1, MAX - 4, MIN, MIN + 1, -5}) {
+        for (int seed : new int[] {0, 1, 9, 17, -1, -2, -5, 1 << 20, 987654321, -987654321, MAX, MAX - 1,
+            MAX - 4, MIN, MIN + 1}) {
             Face x = Check.started(31, seed);
             for (int n = 0; n < 5; n++) {
                 Check.same("the timeout of " + n + " with " + seed, x.node(n, 9), timeout(seed, 0, n));

@@ -142,6 +142,9 @@ public final class PromiseEdges {
             Check.same("setDelay(" + delay + ")", x.setDelay(delay), previous);
             previous = delay;
         }
+        Check.sentence("the delay, 1 to 5");
+        Check.refuses("the delay 0", Check.ARGUMENT, () -> x.setDelay(0));
+        Check.refuses("the delay 6", Check.ARGUMENT, () -> x.setDelay(6));
         Check.sentence("Sets the delay of messages that are sent from now on.");
         Face y = new Real();
         y.setDelay(3);

@@ -33,7 +33,10 @@ public final class ReplicationEdges {
         snapshotThatIsNew();
         snapshotThatIsKnown();
         snapshotThatIsLate();
-        snapshotBeforeEntries();
+        snapshotBeforeEntries(false);
+        snapshotBeforeEntries(true);
+        snapshotBehindASnapshot();
+        orderOfSending();
         snapshotOfAnotherTerm();
         snapshotOfAnEarlierTerm();
         success();
@@ -367,7 +370,9 @@ public final class ReplicationEdges {
         x.tick(1);
         Check.same("the match", x.noted(0, 2, 1), 2);
         Check.same("the next index", x.noted(0, 2, 0), 3);
-        Check.same("the echo", x.noted(0, 2, 2), 21);
+        Check.sentence("Both also tell the time.");
+        Check.same("the echo of a snapshot", x.noted(0, 2, 2), 21);
+        Check.same("the echo of an append", x.noted(0, 1, 2), 21);
     }
 
     /** A snapshot takes five ticks, and one with two entries more overtakes it. */
@@ -399,12 +404,15 @@ public final class ReplicationEdges {
         Check.message("success", x, Check.find(x, 3, 1, 0, 27), 3, 1, 0, 1, 27, 4, 1);
     }
 
-    /** Node 1 has the entries 2 and 3, and the leader a snapshot with 2. */
-    private static void snapshotBeforeEntries() {
+    /** Node 1 has the entries 2 and 3, perhaps behind a snapshot, and the leader a snapshot with 2. */
+    private static void snapshotBeforeEntries(boolean isPacked) {
         Check.sentence("if its log has an entry with this index and the term of the snapshot, the entries"
                 + " after it stay, otherwise its log becomes empty");
         Face x = new Real();
         Scenes.three(x);
+        if (isPacked) {
+            Check.same("pack", x.pack(1), 1);
+        }
         x.setDelay(4);
         x.submit(0, 2);
         x.tick(1);
@@ -430,6 +438,50 @@ public final class ReplicationEdges {
         Check.log("the entry after it stays", x, 1, "[2] 1:3");
         Check.node("the snapshot is its own", x, 1, 1, 0, 1, 0, 2, 3, 1, 2, 2);
         Check.same("snapshots", x.statistic(6), 1);
+    }
+
+    /** Node 2 has a snapshot with 1 and nothing else, and the leader one with 3. */
+    private static void snapshotBehindASnapshot() {
+        Check.sentence("if its log has an entry with this index and the term of the snapshot, the entries"
+                + " after it stay, otherwise its log becomes empty");
+        Face x = new Real();
+        Scenes.three(x);
+        Check.same("pack", x.pack(2), 1);
+        x.crash(2);
+        Check.fill(x, 0, 3);
+        x.tick(3);
+        Check.same("pack", x.pack(0), 3);
+        x.restart(2);
+        x.submit(0, 4);
+        x.tick(2);
+        Check.log("empty", x, 2, "[3]");
+        Check.same("its result", x.node(2, 8), 31 * 2 + 3);
+        x.tick(3);
+        Check.log("and filled again", x, 2, "[3] 1:4!");
+    }
+
+    private static void orderOfSending() {
+        Check.sentence("Other members are sent to in ascending order.");
+        Face x = Check.started(31, 0);
+        x.crash(0);
+        x.crash(1);
+        x.crash(3);
+        x.crash(4);
+        x.tick(x.node(2, 9));
+        for (int n = 0; n < 5; n += n == 1 ? 2 : 1) {
+            x.restart(n);
+        }
+        x.tick(2);
+        int[] others = {0, 1, 3, 4};
+        for (int i = 0; i < 4; i++) {
+            Check.message("by winning", x, i, 2, 2, others[i], 1);
+        }
+        x.tick(1);
+        Check.loseAll(x);
+        x.tick(1);
+        for (int i = 0; i < 4; i++) {
+            Check.message("by its timer", x, i, 2, 2, others[i], 1);
+        }
     }
 
     private static void snapshotOfAnotherTerm() {

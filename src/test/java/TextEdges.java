@@ -77,6 +77,7 @@ public final class TextEdges {
     /** An error stands behind commands that would change much. */
     private static void performErrors() {
         Check.sentence(ERROR);
+        Check.sentence(Check.UNCHANGED);
         String good = "tick 14;put 0,5;crash 1;cut 0,2;pack 0;";
         String[] ends = {"t", "tick", "tick ", "tick 1", "tick 1;;", "stop 1;", "put 0;", "tick 0001;"};
         int[] positions = {0, 4, 5, 6, 7, 0, 5, 8};
@@ -280,6 +281,16 @@ public final class TextEdges {
                 y.tick(2);
             },
             y -> y.tick(8),
+            TextEdges::withSnapshotOnItsWay,
+            y -> {
+                withSnapshotOnItsWay(y);
+                y.tick(1);
+            },
+            y -> {
+                Scenes.three(y);
+                y.submit(0, 3);
+                y.tick(4);
+            },
         };
         for (Looks.Run state : states) {
             Looks.Run saved = y -> {
@@ -302,7 +313,25 @@ public final class TextEdges {
                 y.tick(37);
                 y.restore();
             }, saved);
+            Check.alike("restored after other messages", y -> {
+                saved.on(y);
+                y.start(31, 1);
+                y.tick(20);
+                y.restore();
+            }, saved);
         }
+    }
+
+    /** The snapshot of the leader has the result 31 * 2 + 3 and waits for node 2. */
+    private static void withSnapshotOnItsWay(Face x) {
+        Scenes.three(x);
+        x.crash(2);
+        Check.fill(x, 0, 3);
+        x.tick(3);
+        Check.same("pack", x.pack(0), 3);
+        x.restart(2);
+        x.tick(1);
+        Check.message("the snapshot", x, 1, 4, 0, 2, 1, 19, 3, 1);
     }
 
     private static void restoreOften() {
