@@ -27,6 +27,8 @@ public final class CommitEdges {
         newGroup();
         newGroupLater();
         newGroupIsNotCommittedAtOnce();
+        newGroupByALeaderAlone();
+        newGroupByASuccess();
         leaving();
         stayingUntilCommitted();
         stayingWhileJoint();
@@ -182,6 +184,56 @@ public final class CommitEdges {
         Check.node("joint and committed, and there is no room", x, 0, 1, 2, 1, 0, 24, 24);
         Check.same("joint", x.node(0, 10), 7);
         Check.refuses("no change", Check.STATE, () -> x.reconfigure(0, 7));
+    }
+
+    /** All know that the joint configuration is committed, and node 1 has room for the new group. */
+    private static Face withJointSnapshot() {
+        Face x = new Real();
+        Scenes.three(x);
+        x.crash(3);
+        Check.fill(x, 0, 23);
+        x.reconfigure(0, 14);
+        x.tick(30);
+        Check.node("committed", x, 1, 1, 0, 1, 0, 24, 24);
+        return x;
+    }
+
+    /** Only a leader appends the configuration of the new group. */
+    private static void newGroupByALeaderAlone() {
+        Check.sentence(NEW_GROUP);
+        Face x = withJointSnapshot();
+        Check.same("pack", x.pack(1), 24);
+        x.tick(9);
+        Check.node("a follower does not", x, 1, 1, 0, 1, 0, 24, 24, 1, 24);
+        x.crash(0);
+        x.tick(x.node(2, 9) + 1);
+        Check.node("nor one that is asked for its vote", x, 1, 1, 0, 2, 2, 24, 24, 1, 24);
+        x.crash(2);
+        x.restart(3);
+        Check.loseAll(x);
+        x.tick(x.node(1, 9));
+        Check.node("nor a candidate", x, 1, 1, 1, 3, 1, 24, 24, 1, 24);
+        x.tick(2);
+        Check.same("one vote is no quorum", x.node(1, 13), 10);
+        Check.node("nor with it", x, 1, 1, 1, 3, 1, 24, 24, 1, 24);
+    }
+
+    /** The leader gets room for the new group, and hears of a failure before it hears of a success. */
+    private static void newGroupByASuccess() {
+        Check.sentence(NEW_GROUP);
+        Face x = withJointSnapshot();
+        x.crash(0);
+        Check.loseAll(x);
+        x.tick(x.node(2, 9) + 2);
+        Check.node("it leads and has no room", x, 2, 1, 2, 2, 2, 24, 24, 1, 0);
+        Check.same("pack", x.pack(2), 24);
+        x.lose(Check.find(x, 2, 2, 1, x.statistic(0) + 1));
+        x.restart(3);
+        x.tick(2);
+        Check.same("the failure has come", x.noted(2, 3, 0), 1);
+        Check.node("nothing is appended", x, 2, 1, 2, 2, 2, 24, 24, 1, 24);
+        x.tick(2);
+        Check.log("with a success it is", x, 2, "[24] 2:C14");
     }
 
     private static void afterAppending() {

@@ -411,6 +411,16 @@ public final class DetailEdges {
             z.save();
         };
         Check.sentence("What is saved contains delay, links, messages, statistics and winners");
+        Looks.Run sent = z -> {
+            before.on(z);
+            z.save();
+        };
+        Check.alike("restored before", z -> {
+            sent.on(z);
+            z.start(31, 9);
+            z.tick(30);
+            z.restore();
+        }, sent);
         Check.alike("restored", z -> {
             installed.on(z);
             z.start(31, 9);

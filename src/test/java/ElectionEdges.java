@@ -13,6 +13,7 @@ public final class ElectionEdges {
         greaterTerm();
         equalTerm();
         grantInItsTerm();
+        grantInItsTermAlone();
         grantOnce();
         grantByIndex();
         grantByTerm();
@@ -124,6 +125,38 @@ public final class ElectionEdges {
         y.tick(9);
         Check.message("granted", y, 0, 1, 1, 0, 1, 10, 0, 1);
         Check.message("granted", y, 1, 1, 2, 0, 1, 10, 0, 1);
+    }
+
+    /**
+     * Node 1 asks in the term 2 at 30, with a delay of 5. Node 0 hears of the term 3 at 33 from node
+     * 2, which is behind and gets no vote, so that node 0 still has one, but not for the term 2.
+     */
+    private static void grantInItsTermAlone() {
+        Check.sentence(GRANT);
+        Face x = new Real();
+        Scenes.three(x);
+        x.crash(2);
+        x.setLink(0, 2, true);
+        x.setLink(1, 2, true);
+        x.submit(0, 5);
+        x.tick(1);
+        x.restart(2);
+        x.tick(4);
+        x.crash(0);
+        Check.loseAll(x);
+        x.tick(10);
+        x.setDelay(5);
+        x.tick(1);
+        Check.message("node 1 asks", x, 0, 0, 1, 0, 2, 35, 2, 1);
+        x.setDelay(1);
+        x.restart(0);
+        x.tick(1);
+        x.setLink(0, 2, false);
+        x.tick(2);
+        Check.node("node 0 is in the term 3", x, 0, 1, 0, 3, -1, 0, 2, 1);
+        x.tick(2);
+        Check.message("no vote for the term 2", x, 0, 1, 0, 1, 3, 36, 0, 0);
+        Check.node("node 0 has its vote", x, 0, 1, 0, 3, -1, 0, 2, 1);
     }
 
     private static void grantOnce() {

@@ -35,6 +35,10 @@ public final class ReplicationEdges {
         snapshotThatIsLate();
         snapshotBeforeEntries(false);
         snapshotBeforeEntries(true);
+        snapshotOfItsOwnTerm();
+        snapshotOfAnEarlierLeader();
+        termOfThePrevious();
+        sameTermBehindAnother();
         snapshotBehindASnapshot();
         orderOfSending();
         snapshotOfAnotherTerm();
@@ -438,6 +442,116 @@ public final class ReplicationEdges {
         Check.log("the entry after it stays", x, 1, "[2] 1:3");
         Check.node("the snapshot is its own", x, 1, 1, 0, 1, 0, 2, 3, 1, 2, 2);
         Check.same("snapshots", x.statistic(6), 1);
+    }
+
+    /**
+     * The leader of the term 2 has a snapshot with the index 2 and the term 1, and comes to send it
+     * by three failures of node 1, which has the entries 2 and 3 and knows that 1 is committed.
+     */
+    private static void snapshotOfItsOwnTerm() {
+        Check.sentence("if its log has an entry with this index and the term of the snapshot, the entries"
+                + " after it stay, otherwise its log becomes empty");
+        Face x = new Real();
+        Scenes.three(x);
+        x.setDelay(4);
+        x.submit(0, 2);
+        x.tick(1);
+        x.lose(0);
+        x.submit(0, 3);
+        x.tick(3);
+        x.lose(2);
+        x.submit(0, 4);
+        x.tick(3);
+        x.lose(2);
+        x.tick(2);
+        x.setDelay(1);
+        x.tick(1);
+        x.lose(2);
+        x.tick(1);
+        x.crash(0);
+        Check.loseAll(x);
+        Check.same("pack", x.pack(2), 2);
+        x.tick(8);
+        x.setDelay(5);
+        x.tick(1);
+        Check.log("the leader", x, 2, "[2] 1:3 1:4 2:-");
+        Check.log("the follower", x, 1, "1:-! 1:2 1:3");
+        x.tick(10);
+        x.lose(Check.find(x, 2, 2, 1, 49));
+        x.setLink(1, 2, true);
+        x.tick(4);
+        x.setLink(1, 2, false);
+        x.tick(1);
+        Check.message("the snapshot", x, Check.find(x, 4, 2, 1, 54), 4, 2, 1, 2, 54, 2, 1);
+        x.tick(5);
+        Check.log("the entry after it stays", x, 1, "[2] 1:3");
+        Check.same("snapshots", x.statistic(6), 1);
+    }
+
+    /** The leader of the term 2 has a snapshot of the term 1, and node 4 nothing. */
+    private static void snapshotOfAnEarlierLeader() {
+        Check.sentence("the snapshot becomes its own, and its commit index becomes that of the snapshot");
+        Face x = Check.started(31, 0);
+        x.crash(4);
+        x.tick(14);
+        x.crash(0);
+        Check.loseAll(x);
+        x.tick(x.node(2, 9) + 2);
+        Check.same("pack", x.pack(2), 1);
+        Check.log("two terms", x, 2, "[1] 2:-");
+        x.restart(4);
+        x.tick(2);
+        int time = x.statistic(0);
+        int number = Check.find(x, 4, 2, 4, time + 1);
+        Check.message("its term is not that of the last entry", x, number, 4, 2, 4, 2, time + 1, 1, 1);
+        x.tick(1);
+        Check.node("nor that of the leader", x, 4, 1, 0, 2, -1, 1, 1, 1, 1, 0);
+    }
+
+    /** The leader of the term 2 has a snapshot of the term 1 just before its own entry. */
+    private static void termOfThePrevious() {
+        Check.sentence("the term of the entry or snapshot there");
+        Looks.Run before = x -> {
+            Scenes.three(x);
+            x.crash(0);
+            Check.loseAll(x);
+            x.tick(x.node(2, 9) + 2);
+            Check.same("pack", x.pack(2), 1);
+            Check.loseAll(x);
+        };
+        Face x = new Real();
+        before.on(x);
+        Check.log("two terms", x, 2, "[1] 2:-");
+        x.tick(3);
+        Check.log("it is that of the snapshot", x, 1, "1:-! 2:-");
+        Check.sentence("Restores what was saved, which stays saved.");
+        Looks.Run saved = y -> {
+            before.on(y);
+            y.save();
+        };
+        Check.alike("restored", y -> {
+            saved.on(y);
+            y.start(31, 9);
+            y.tick(20);
+            y.restore();
+        }, saved);
+    }
+
+    /** Node 1 has the blank entry of the term 2 behind one of the term 1, and gets it again. */
+    private static void sameTermBehindAnother() {
+        Check.sentence(REMOVED);
+        Face x = new Real();
+        Scenes.three(x);
+        x.crash(0);
+        Check.loseAll(x);
+        x.tick(x.node(2, 9) + 3);
+        int time = x.statistic(0);
+        x.lose(Check.find(x, 3, 1, 2, time + 1));
+        x.tick(1);
+        Check.message("sent again", x, Check.find(x, 2, 2, 1, time + 2), 2, 2, 1, 2, time + 2, 1, 1);
+        x.tick(1);
+        Check.log("as before", x, 1, "1:-! 2:-");
+        Check.same("none is removed", x.statistic(5), 0);
     }
 
     /** Node 2 has a snapshot with 1 and nothing else, and the leader one with 3. */

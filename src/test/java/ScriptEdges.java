@@ -130,6 +130,15 @@ public final class ScriptEdges {
                 + " snapshot");
         same("tick 14;", x -> x.tick(14));
         same("tick 60;", x -> x.tick(60));
+        same("cut 0,1;cut 2,0;pack 1;pack 2;crash 1;restart 1;tick 14;", x -> {
+            x.setLink(0, 1, true);
+            x.setLink(0, 2, true);
+            x.pack(1);
+            x.pack(2);
+            x.crash(1);
+            x.restart(1);
+            x.tick(14);
+        });
         same("crash 0;crash 4;", x -> {
             x.crash(0);
             x.crash(4);
