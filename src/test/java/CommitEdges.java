@@ -28,6 +28,7 @@ public final class CommitEdges {
         newGroupLater();
         newGroupIsNotCommittedAtOnce();
         newGroupByALeaderAlone();
+        newGroupByNoFailure();
         newGroupByASuccess();
         leaving();
         stayingUntilCommitted();
@@ -198,14 +199,21 @@ public final class CommitEdges {
         return x;
     }
 
-    /** Only a leader appends the configuration of the new group. */
+    /** Only a leader appends the configuration of the new group, whatever another node receives. */
     private static void newGroupByALeaderAlone() {
         Check.sentence(NEW_GROUP);
         Face x = withJointSnapshot();
         Check.same("pack", x.pack(1), 24);
         x.tick(9);
         Check.node("a follower does not", x, 1, 1, 0, 1, 0, 24, 24, 1, 24);
-        x.crash(0);
+        x.crash(1);
+        x.tick(6);
+        Check.node("nor a node that is down", x, 1, 0, 0, 1, 0, 24, 24, 1, 24);
+        x.restart(1);
+        for (int n = 1; n <= 3; n++) {
+            x.setLink(0, n, true);
+        }
+        Check.loseAll(x);
         x.tick(x.node(2, 9) + 1);
         Check.node("nor one that is asked for its vote", x, 1, 1, 0, 2, 2, 24, 24, 1, 24);
         x.crash(2);
@@ -216,6 +224,44 @@ public final class CommitEdges {
         x.tick(2);
         Check.same("one vote is no quorum", x.node(1, 13), 10);
         Check.node("nor with it", x, 1, 1, 1, 3, 1, 24, 24, 1, 24);
+        x.tick(x.node(1, 9) + 1);
+        x.crash(1);
+        x.restart(1);
+        x.tick(1);
+        Check.node("nor with a vote that comes too late", x, 1, 1, 0, 4, 1, 24, 24, 1, 24);
+        x.setLink(0, 1, false);
+        Check.node("an earlier leader", x, 0, 1, 2, 1, 0, 24, 24);
+        x.tick(x.node(0, 9) + 1);
+        Check.same("is told so", x.message(0, 0), 3);
+        Check.node("nor by an earlier leader", x, 1, 1, 0, 4, 1, 24, 24, 1, 24);
+    }
+
+    /** A follower with the joint configuration in its snapshot is sent what is too far behind it. */
+    private static void newGroupByNoFailure() {
+        Check.sentence(NEW_GROUP);
+        Face x = withJointSnapshot();
+        Check.same("pack", x.pack(1), 24);
+        x.crash(0);
+        Check.loseAll(x);
+        x.tick(x.node(2, 9) + 2);
+        Check.same("pack", x.pack(2), 24);
+        x.crash(1);
+        x.restart(3);
+        x.tick(6);
+        Check.log("the leader", x, 2, "[24] 2:C14");
+        x.submit(2, 9);
+        x.crash(2);
+        x.restart(2);
+        x.crash(3);
+        Check.loseAll(x);
+        x.tick(x.node(2, 9));
+        x.restart(1);
+        x.tick(2);
+        Check.node("it leads again", x, 2, 1, 2, 3, 2, 24, 27, 3);
+        x.tick(1);
+        int time = x.statistic(0);
+        Check.message("a failure", x, Check.find(x, 3, 1, 2, time + 1), 3, 1, 2, 3, time + 1, 24, 0);
+        Check.node("it appends nothing", x, 1, 1, 0, 3, 2, 24, 24, 1, 24);
     }
 
     /** The leader gets room for the new group, and hears of a failure before it hears of a success. */

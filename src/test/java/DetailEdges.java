@@ -41,13 +41,13 @@ public final class DetailEdges {
             x.tick(1);
             int time = x.statistic(0);
             Check.holds("a request of the term 2", Check.find(x, 0, 2, 0, time + 1) >= 0);
-            int timer = 4 - wait;
-            Check.node("a leader", x, 0, 1, 2, 1, 0, 2, 2, 1, 0, 1, wait == 1 ? 1 : 5 - wait);
+            int timer = wait == 1 ? 1 : 5 - wait;
+            Check.node("a leader", x, 0, 1, 2, 1, 0, 2, 2, 1, 0, 1, timer);
             x.tick(1);
-            if (wait == 1) {
+            if (timer == 1) {
                 Check.node("it stands at once", x, 0, 1, 1, 3, 0, 2, 2, 1, 0, 1, 12);
             } else {
-                Check.node("one tick later", x, 0, 1, 0, 2, -1, 2, 2, 1, 0, 1, timer);
+                Check.node("one tick later", x, 0, 1, 0, 2, -1, 2, 2, 1, 0, 1, timer - 1);
             }
         }
     }
@@ -214,13 +214,13 @@ public final class DetailEdges {
 
     private static void timerOfAWinner() {
         Check.sentence("The node becomes a leader; its timer becomes 3.");
-        Check.sentence("A node that wins by a message in a tick has its timer decreased in the same tick.");
         Face x = new Real();
-        x.tick(10);
-        Check.node("by a message", x, 0, 1, 2, 1, 0, 0, 1, 1, 0, 0, 2);
+        Scenes.alone(x);
+        Check.node("by its timer", x, 0, 1, 2, 1, 0, 1, 1, 1, 0, 0, 3);
+        Check.sentence("A node that wins by a message in a tick has its timer decreased in the same tick.");
         Face y = new Real();
-        Scenes.alone(y);
-        Check.node("by its timer", y, 0, 1, 2, 1, 0, 1, 1, 1, 0, 0, 3);
+        y.tick(10);
+        Check.node("by a message", y, 0, 1, 2, 1, 0, 0, 1, 1, 0, 0, 2);
     }
 
     /**
@@ -367,6 +367,16 @@ public final class DetailEdges {
         x.crash(0);
         x.restart(0);
         Check.same("that of the last entry", x.node(0, 10), 0);
+        Face z = new Real();
+        Scenes.three(z);
+        z.reconfigure(0, 3);
+        z.tick(3);
+        Check.same("pack the joint one", z.pack(0), 2);
+        z.tick(3);
+        Check.same("pack the other one alone", z.pack(0), 1);
+        Check.log("none is left", z, 0, "[3]");
+        Check.same("the only group", z.node(0, 11), 3);
+        Check.same("and no old one", z.node(0, 10), 0);
         Face y = new Real();
         Scenes.three(y);
         y.reconfigure(0, 3);
